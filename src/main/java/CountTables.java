@@ -1329,11 +1329,11 @@ public final class CountTables {
 
     /** All swaps and turns that no hole forbids, each once: what it adds, which cells it lessens. */
     private static final class Moves {
-        private static final int SWAPS = 72;
+        static final int SWAPS = 72;
         private static final int LIMIT = SWAPS + 192;
 
         int swapEnd;
-        int end;
+        int moveEnd;
         /** How many choices of two rows and two columns there are. */
         int choices;
         final long[] step = new long[LIMIT];
@@ -1342,14 +1342,14 @@ public final class CountTables {
         private final int[] lessC = new int[LIMIT];
 
         void make(Sheet sheet) {
-            end = 0;
+            moveEnd = 0;
             choices = sheet.rows * (sheet.rows - 1) * sheet.columns * (sheet.columns - 1);
             for (int r = 0; r < sheet.rows; r++) {
                 for (int s = r + 1; s < sheet.rows; s++) {
                     addSwaps(sheet, r, s);
                 }
             }
-            swapEnd = end;
+            swapEnd = moveEnd;
             // the first row of a turn is its least: its three beginnings are one turn
             for (int r = 0; r < sheet.rows; r++) {
                 for (int s = r + 1; s < sheet.rows; s++) {
@@ -1391,14 +1391,14 @@ public final class CountTables {
         }
 
         private void add(long by, int a, int b, int c) {
-            if (end < 0 || end >= LIMIT) {
+            if (moveEnd < 0 || moveEnd >= LIMIT) {
                 return;
             }
-            step[end] = by;
-            lessA[end] = a;
-            lessB[end] = b;
-            lessC[end] = c;
-            end++;
+            step[moveEnd] = by;
+            lessA[moveEnd] = a;
+            lessB[moveEnd] = b;
+            lessC[moveEnd] = c;
+            moveEnd++;
         }
 
         boolean can(long cells, int move) {
@@ -1420,6 +1420,7 @@ public final class CountTables {
     /** A listed fiber as a net: its tables by rank, and which are one swap apart. */
     private static final class Net {
         private static final int FIRST_ROOM = 256;
+        private static final int MOST_NEARS = LISTED * Moves.SWAPS;
         private static final long TOP_BIT = 1L << 63;
 
         private final Fiber fiber;
@@ -1473,9 +1474,9 @@ public final class CountTables {
 
         private void linkSwaps(int at) {
             for (int move = 0; move < moves.swapEnd; move++) {
-                if (moves.can(list[at], move)) {
+                if (moves.can(list[at], move) && nears < MOST_NEARS) {
                     if (nears >= near.length) {
-                        near = Arrays.copyOf(near, 2 * near.length);
+                        near = Arrays.copyOf(near, Math.min(MOST_NEARS, 2 * near.length));
                     }
                     near[nears] = find(list[at] + moves.step[move]);
                     nears++;
@@ -1573,7 +1574,7 @@ public final class CountTables {
             reach(distances, from, 0);
             for (int i = 0; i < queued && i < size; i++) {
                 int at = queue[i];
-                for (int move = 0; move < moves.end; move++) {
+                for (int move = 0; move < moves.moveEnd; move++) {
                     if (moves.can(list[at], move)) {
                         reach(distances, find(list[at] + moves.step[move]), 0);
                     }
