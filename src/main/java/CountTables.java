@@ -881,7 +881,7 @@ public final class CountTables {
             size = 0;
             for (int y = 0; y < sheet.rows && y < SIDE; y++) {
                 start[y] = size;
-                lay(sheet, y, 0, sheet.rowSums[y], 0);
+                lay(this, sheet, y, 0, sheet.rowSums[y], 0);
                 start[y + 1] = size;
             }
         }
@@ -920,15 +920,15 @@ public final class CountTables {
             }
         }
 
-        private void lay(Sheet sheet, int y, int x, int left, int cells) {
+        private static void lay(Fills fills, Sheet sheet, int y, int x, int left, int cells) {
             if (x < 0 || x >= sheet.columns || x >= SIDE) {
-                keep(sheet, y, cells);
+                fills.keep(sheet, y, cells);
                 return;
             }
             int top = sheet.isHole(y, x) ? 0 : Math.min(left, sheet.columnSums[x]);
             int v = x == sheet.columns - 1 ? left : 0;
             for (; v <= top; v++) {
-                lay(sheet, y, x + 1, left - v, Grid.putInLine(cells, x, v));
+                lay(fills, sheet, y, x + 1, left - v, Grid.putInLine(cells, x, v));
             }
         }
 
@@ -1300,18 +1300,21 @@ public final class CountTables {
             value[which] = limit;
             number[which] = 0;
             heft[which] = 0;
-            gather(which, 0, 0, start(which), 1);
+            gather(this, which, 0, 0, start(which), 1);
         }
 
-        /** Whole branches are taken or left by their bounds, so that few tables are gone through. */
-        private void gather(int which, int node, int depth, long sum, long weighs) {
-            long lower = join(which, sum, low[which][node]);
-            long upper = join(which, sum, high[which][node]);
-            boolean all = which == 0 ? upper <= value[which] : lower >= value[which];
-            boolean any = which == 0 ? lower <= value[which] : upper >= value[which];
+        /** Whole branches are taken or left by their bounds: few tables are gone through. */
+        private static void gather(Measures m, int which, int node, int depth, long sum,
+                long weighs) {
+            Fiber fiber = m.fiber;
+            long limit = m.value[which];
+            long lower = join(which, sum, m.low[which][node]);
+            long upper = join(which, sum, m.high[which][node]);
+            boolean all = which == 0 ? upper <= limit : lower >= limit;
+            boolean any = which == 0 ? lower <= limit : upper >= limit;
             if (all) {
-                number[which] += fiber.ahead[node];
-                heft[which] += weighs * fiber.heftAhead[node];
+                m.number[which] += fiber.ahead[node];
+                m.heft[which] += weighs * fiber.heftAhead[node];
             }
             if (all || !any || depth >= fiber.rows) {
                 return;
@@ -1320,7 +1323,8 @@ public final class CountTables {
                 int to = fiber.linkTo[link];
                 int fill = fiber.linkFill[link];
                 if (fiber.ahead[to] > 0) {
-                    gather(which, to, depth + 1, join(which, sum, fiber.fills.parts[which][fill]),
+                    gather(m, which, to, depth + 1,
+                            join(which, sum, fiber.fills.parts[which][fill]),
                             weighs * fiber.fills.parts[0][fill]);
                 }
             }
