@@ -51,6 +51,7 @@ public final class PromisesTest {
         tape();
         telling();
         faults();
+        allHoles();
         cellsAndSums();
         fiber();
         cellsOfTheFiber();
@@ -195,6 +196,27 @@ public final class PromisesTest {
         fault(SMALL + "hole 1 0;row 0 0;", 1, 48);
         fault(SMALL + "\u00e9", 1, 39);
         fault(SMALL + "\u0000", 1, 39);
+    }
+
+    /** As many holes as cells, and what comes behind them. */
+    private static void allHoles() {
+        StringBuilder text = new StringBuilder("table rows 4 columns 4;");
+        for (int y = 0; y < 4; y++) {
+            text.append("row 0 0 0 0;");
+        }
+        for (int i = 0; i < 16; i++) {
+            text.append("hole ").append(i / 4).append(' ').append(i % 4).append(';');
+        }
+        CountTables x = of(text.toString());
+        due(4, "lines", x.count(5), 21);
+        due(6, "holes", x.count(3), 16);
+        due(11, "tables()", x.tables(), 1);
+        due(16, "fixed()", x.fixed(), 0);
+        due(28, "swaps()", x.swaps(), 0);
+        due(37, "ways(1, 0)", x.ways(1, 0), 144);
+        fault(text + "hole 3 3;", 2, 222);
+        fault(text + ";", 1, 215);
+        fault(text + "hole", 1, 219);
     }
 
     private static void cellsAndSums() {
