@@ -396,7 +396,7 @@ public final class CountTables {
             }
         }
 
-        /** Behind the end stands a byte that no token has, so that a reader may look one further. */
+        /** Behind the end stands a byte that no token has: a reader may look one further. */
         int byteAt(int place) {
             return place >= 0 && place < length && place < LIMIT ? bytes[place] : 0;
         }
@@ -698,21 +698,13 @@ public final class CountTables {
             return exponent << 52 | (long) ((part - 1) * (double) (1L << 52));
         }
 
+        /** A double holds any float as it is, with 896 more in its exponent. */
         static int bitsOfFloat(float number) {
-            float part = number < 0 ? -number : number;
-            if (!(part > 0)) {
+            long wide = bitsOfDouble(number < 0 ? -number : number);
+            if (wide == 0) {
                 return 0;
             }
-            int exponent = 127;
-            for (int i = 0; i < MOST_EXPONENT && part >= 2; i++) {
-                part = part / 2;
-                exponent++;
-            }
-            for (int i = 0; i < MOST_EXPONENT && part < 1; i++) {
-                part = part * 2;
-                exponent--;
-            }
-            int bits = exponent << 23 | (int) ((part - 1) * (float) (1 << 23));
+            int bits = (int) ((wide >>> 29) - (896L << 23));
             return number < 0 ? bits | 1 << 31 : bits;
         }
     }
@@ -1331,7 +1323,7 @@ public final class CountTables {
         }
     }
 
-    /** All swaps and turns that no hole forbids, each once: what it adds, which cells it lessens. */
+    /** All swaps and turns that no hole forbids, each once: what it adds, what it lessens. */
     private static final class Moves {
         static final int SWAPS = 72;
         private static final int LIMIT = SWAPS + 192;

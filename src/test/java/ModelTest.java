@@ -80,14 +80,7 @@ public final class ModelTest {
                 cells[k / columns][k % columns]++;
             }
         }
-        StringBuilder text = new StringBuilder("table rows " + rows + " columns " + columns + ";");
-        for (int[] line : cells) {
-            text.append("row");
-            for (int v : line) {
-                text.append(' ').append(v);
-            }
-            text.append(';');
-        }
+        StringBuilder text = new StringBuilder(Texts.of(cells));
         int chance = big ? 12 : 2 + random.nextInt(8);
         for (int y = 0; y < rows; y++) {
             for (int x = 0; x < columns; x++) {

@@ -1,5 +1,3 @@
-import java.nio.charset.StandardCharsets;
-
 /** The class and the model side by side: each call goes to both, and must answer the same. */
 final class Pair {
     private final CountTables own = new CountTables();
@@ -11,17 +9,11 @@ final class Pair {
     /** Feeds a text (its bytes 0 to 255), cuts it to its length, and tells it. */
     void tell(String text) {
         told.append("text ").append(text.replace('\n', '|')).append('\n');
-        byte[] bytes = text.getBytes(StandardCharsets.ISO_8859_1);
-        int before = own.count(6);
-        for (int i = 0; i < bytes.length; i += 20) {
-            int[] w = new int[5];
-            for (int k = 0; k < 20; k++) {
-                int b = i + k < bytes.length ? bytes[i + k] & 255 : 0;
-                w[k / 4] = w[k / 4] << 8 | b;
-            }
+        int length = own.count(6) + text.length();
+        for (int[] w : Texts.words(text)) {
             due("feed", own.feed(w[0], w[1], w[2], w[3], w[4]), model.feed(w));
         }
-        due("end", own.end(before + bytes.length), model.end(before + bytes.length));
+        due("end", own.end(length), model.end(length));
         due("table", own.table(), model.table());
         due("fault", own.fault(0), model.fault(0));
         due("place", own.fault(1), model.fault(1));

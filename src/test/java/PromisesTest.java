@@ -1,5 +1,3 @@
-import java.nio.charset.StandardCharsets;
-
 /** Each promise of the document by answers that were worked out by hand: see the heads. */
 public final class PromisesTest {
     /** 2 x 2, rows 3 and 3, columns 2 and 4: three tables, told is the last. */
@@ -23,22 +21,9 @@ public final class PromisesTest {
         }
     }
 
-    private static void feed(CountTables x, String text) {
-        byte[] bytes = text.getBytes(StandardCharsets.ISO_8859_1);
-        int before = x.count(6);
-        for (int i = 0; i < bytes.length; i += 20) {
-            int[] w = new int[5];
-            for (int k = 0; k < 20; k++) {
-                w[k / 4] = w[k / 4] << 8 | (i + k < bytes.length ? bytes[i + k] & 255 : 0);
-            }
-            x.feed(w[0], w[1], w[2], w[3], w[4]);
-        }
-        x.end(before + bytes.length);
-    }
-
     private static CountTables of(String text) {
         CountTables x = new CountTables();
-        feed(x, text);
+        Texts.feed(x, text);
         if (x.table() < 0) {
             wrong++;
             System.out.println("not taken: " + text + " by " + x.fault(0) + " at " + x.fault(1));
@@ -115,24 +100,24 @@ public final class PromisesTest {
         CountTables x = of(SMALL);
         due(4, "count(6), the tape is empty", x.count(6), 0);
         x.swap(0, 1, 1, 0);
-        feed(x, "table rows 2 columns 2;row 2 1;row 0 3");
+        Texts.feed(x, "table rows 2 columns 2;row 2 1;row 0 3");
         due(4, "table() with a fault", x.table(), -4);
         due(4, "count(6) behind a fault", x.count(6), 0);
         due(4, "acts stay", x.count(4), 1);
         due(4, "cells stay", x.cell(0, 0), 1);
         due(4, "lines stay", x.count(5), 3);
-        feed(x, "\n table\nrows 3columns 2;row1 0;row 00 009;row 3 0;hole 0 1;\n ");
+        Texts.feed(x, "\n table\nrows 3columns 2;row1 0;row 00 009;row 3 0;hole 0 1;\n ");
         due(4, "table()", x.table(), 5);
         due(4, "no acts", x.count(4), 0);
         due(4, "cell(1, 1)", x.cell(1, 1), 9);
         due(4, "hole(0, 1)", x.hole(0, 1), 1);
         due(4, "hole(1, 0)", x.hole(1, 0), 0);
-        feed(x, TURNING);
+        Texts.feed(x, TURNING);
         due(4, "table()", x.table(), 7);
-        feed(x, SMALL);
+        Texts.feed(x, SMALL);
         due(4, "table()", x.table(), 3);
         due(4, "holes are gone", x.count(3), 0);
-        feed(x, " \n ");
+        Texts.feed(x, " \n ");
         due(4, "table() of blanks", x.table(), 0);
         due(4, "there is none", x.tables(), -2);
         due(4, "count(5)", x.count(5), 0);
@@ -141,7 +126,7 @@ public final class PromisesTest {
 
     private static void fault(String text, int kind, int place) {
         CountTables x = new CountTables();
-        feed(x, text);
+        Texts.feed(x, text);
         due(4, "table() of " + text, x.table(), -4);
         due(5, "fault(0) of " + text, x.fault(0), kind);
         due(5, "fault(1) of " + text, x.fault(1), place);
@@ -153,12 +138,12 @@ public final class PromisesTest {
         due(5, "fault(1) ahead of any", x.fault(1), -1);
         due(5, "fault(2)", x.fault(2), -1);
         due(5, "fault(-1)", x.fault(-1), -1);
-        feed(x, ";");
+        Texts.feed(x, ";");
         x.table();
         due(5, "fault(0)", x.fault(0), 1);
         due(5, "fault(1)", x.fault(1), 0);
         due(5, "fault(2)", x.fault(2), -1);
-        feed(x, SMALL);
+        Texts.feed(x, SMALL);
         x.table();
         due(5, "fault(0) without", x.fault(0), 0);
         due(5, "fault(1) without", x.fault(1), -1);

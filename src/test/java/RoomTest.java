@@ -1,5 +1,4 @@
 import java.lang.management.ManagementFactory;
-import java.nio.charset.StandardCharsets;
 
 /** A whole run of 512 dear calls makes little: all that a run makes lives in one room. */
 public final class RoomTest {
@@ -17,7 +16,7 @@ public final class RoomTest {
                 (com.sun.management.ThreadMXBean) ManagementFactory.getThreadMXBean();
         int[][][] words = new int[TEXTS.length][][];
         for (int i = 0; i < TEXTS.length; i++) {
-            words[i] = words(TEXTS[i]);
+            words[i] = Texts.words(TEXTS[i]);
         }
         run(words);
         long before = threads.getCurrentThreadAllocatedBytes();
@@ -29,23 +28,12 @@ public final class RoomTest {
         }
     }
 
-    private static int[][] words(String text) {
-        byte[] bytes = text.getBytes(StandardCharsets.ISO_8859_1);
-        int[][] words = new int[(bytes.length + 19) / 20][5];
-        for (int i = 0; i < 20 * words.length; i++) {
-            int b = i < bytes.length ? bytes[i] & 255 : ' ';
-            words[i / 20][i % 20 / 4] = words[i / 20][i % 20 / 4] << 8 | b;
-        }
-        return words;
-    }
-
     private static long run(int[][][] words) {
         CountTables x = new CountTables();
         long sum = 0;
         for (int calls = 0; calls + 24 <= 512; calls += 24) {
-            for (int[] w : words[calls / 24 % words.length]) {
-                x.feed(w[0], w[1], w[2], w[3], w[4]);
-            }
+            int text = calls / 24 % words.length;
+            Texts.feed(x, words[text], TEXTS[text].length());
             sum += x.table() + x.walk(1000, calls) + x.extreme(0) + x.extreme(1) + x.extreme(2);
             sum += x.share(3, 0) + x.heaviest() + x.lightest() + x.classes() + x.joined();
             sum += x.far() + x.ways(4, calls) + x.apart(calls, 3 * calls % 900) + x.farthest();
