@@ -700,7 +700,7 @@ public final class CountTables {
 
         /** A double holds any float as it is, with 896 more in its exponent. */
         static int bitsOfFloat(float number) {
-            long wide = bitsOfDouble(number < 0 ? -number : number);
+            long wide = bitsOfDouble((double) (number < 0 ? -number : number));
             if (wide == 0) {
                 return 0;
             }

@@ -18,6 +18,9 @@ public final class ModelTest {
         }
         wrong += everyCell(new Random(7));
         wrong += largestLists();
+        for (int seed = 0; seed < 4000; seed++) {
+            wrong += turning(new Random(seed));
+        }
         if (wrong != 0) {
             System.out.println(wrong + " answers are not the model's");
             System.exit(1);
@@ -141,5 +144,36 @@ public final class ModelTest {
             wrong += pair.wrong;
         }
         return wrong;
+    }
+
+    /** Few cells free of holes, so that swaps do not do, and turns do in part. */
+    private static int turning(Random random) {
+        int rows = 3 + random.nextInt(2);
+        int columns = 3 + random.nextInt(2);
+        int[][] cells = new int[rows][columns];
+        for (int i = 3 + random.nextInt(5); i > 0; i--) {
+            cells[random.nextInt(rows)][random.nextInt(columns)]++;
+        }
+        StringBuilder text = new StringBuilder(Texts.of(cells));
+        int chance = 30 + random.nextInt(60);
+        for (int k = 0; k < rows * columns; k++) {
+            boolean free = cells[k / columns][k % columns] > 0 || random.nextInt(100) >= chance;
+            text.append(free ? "" : "hole " + k / columns + " " + k % columns + ";");
+        }
+        Pair pair = new Pair();
+        pair.tell(text.toString());
+        if (pair.tables() <= 60) {
+            pair.call(27, 0, 0, 0, 0);
+            pair.call(28, 0, 0, 0, 0);
+            for (int rank = 0; rank < pair.tables(); rank++) {
+                pair.call(29, rank, 0, 0, 0);
+                pair.call(30, rank, 0, 0, 0);
+                pair.call(31, rank, 0, 0, 0);
+            }
+            for (int which = 32; which <= 34; which++) {
+                pair.call(which, 1, 0, 0, 0);
+            }
+        }
+        return pair.wrong;
     }
 }
