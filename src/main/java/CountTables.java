@@ -1601,8 +1601,7 @@ public final class CountTables {
             measureFrom(from);
             int best = from;
             for (int i = 0; i < size; i++) {
-                boolean farther = distances[i] > distances[best];
-                if (farther || distances[i] == distances[best] && i < best) {
+                if (distances[i] > distances[best]) {
                     best = i;
                 }
             }
