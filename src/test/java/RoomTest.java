@@ -32,15 +32,15 @@ public final class RoomTest {
         CountTables x = new CountTables();
         long sum = 0;
         int[] apart = new int[words.length];
-        for (int calls = 0; calls + 24 <= 512; calls += 24) {
-            int text = calls / 24 % words.length;
+        for (int calls = 0; calls + 26 <= 512; calls += 26) {
+            int text = calls / 26 % words.length;
             Texts.feed(x, words[text], TEXTS[text].length());
             sum += x.table() + x.walk(1000, calls) + x.extreme(0) + x.extreme(1) + x.extreme(2);
             sum += x.share(3, 0) + x.heaviest() + x.lightest() + x.classes() + x.joined();
             sum += x.far() + x.ways(4, calls) + x.apart(calls, 3 * calls % 900) + x.farthest();
             sum += x.of(calls, 0, 0) + x.mean(1, 1, 0);
             int now = x.apart(0, 990);
-            if (calls >= 24 * words.length && now != apart[text]) {
+            if (calls >= 26 * words.length && now != apart[text]) {
                 throw new IllegalStateException("a text told again has other distances");
             }
             apart[text] = now;
