@@ -20,7 +20,7 @@ public final class CallsEdgeTest {
         drawing();
         acting();
         calls512();
-        DOC.finish(77);
+        DOC.finish(78);
     }
 
     // promises 1 to 3
@@ -137,6 +137,7 @@ public final class CallsEdgeTest {
     private static void telling() {
         tapeIsEmptyThen();
         inPlaceOfAnother();
+        nothingOfTheOneBefore();
         noneAtAll();
         allElseStays();
         faultWithout();
@@ -176,6 +177,36 @@ public final class CallsEdgeTest {
         }
         DOC.due("a cell that was there", x.cell(3, 3), -2);
         DOC.due("a hole that was there", x.hole(0, 0), 0);
+    }
+
+    private static void nothingOfTheOneBefore() {
+        DOC.says("4", "tells the TABLE (in place of another): nothing of that one is left");
+        // the like weights and squares in fibers that are not, one told behind the other
+        String[] texts = {"table rows 2 columns 2;row 1 0;row 0 1;", Sentences.PLACES,
+            Sentences.TURNING, "table rows 2 columns 3;row 1 0 0;row 0 1 0;", Sentences.SMALL,
+            "table rows 2 columns 2;row 2 1;row 1 2;", Sentences.THOUSAND, TALL, Sentences.NOUGHT};
+        for (int step = 1; step < texts.length; step++) {
+            CountTables x = new CountTables();
+            for (int i = 0; i < 5; i++) {
+                String text = texts[i * step % texts.length];
+                Texts.feed(x, text);
+                x.table();
+                long[] due = answers(DOC.told(text));
+                long[] got = answers(x);
+                for (int k = 0; k < due.length; k++) {
+                    DOC.due("answer " + k + " of " + text, got[k], due[k]);
+                }
+            }
+        }
+    }
+
+    /** What hangs on the whole fiber and may be kept from one call to the next. */
+    private static long[] answers(CountTables x) {
+        return new long[] {x.extreme(0), x.extreme(1), x.extreme(2), x.extreme(3), x.share(0, 0),
+            x.share(1, 0), x.share(2, 1), x.share(3, 1), x.heaviest(), x.lightest(), x.weights(),
+            x.having(0, 0, 0), x.mean(0, 1, 0), x.fixed(), x.classes(), x.joined(), x.classOf(1),
+            x.sized(1), x.apart(0, 1), x.far(), x.farthest(), x.within(1), x.ways(2, 0), x.ways(4, 1),
+            x.evenly(), x.drawn(1073741823), x.swaps(), x.walk(9, 9), x.rank(), x.of(1, 0, 0)};
     }
 
     private static void noneAtAll() {
@@ -1069,6 +1100,13 @@ public final class CallsEdgeTest {
         }
         DOC.due("none of the other class", DOC.told(Sentences.TURNING).within(40), 1);
         DOC.due("within(0) of 1,000", DOC.told(Sentences.THOUSAND).within(0), 1);
+        for (int v = 9; v > 0; v--) {
+            x.swap(0, 1, 1, 0);
+        }
+        DOC.due("rank()", x.rank(), 0);
+        for (int n = 0; n <= 40; n++) {
+            DOC.due("within(" + n + ") of the first", x.within(n), Math.min(10, n + 1));
+        }
         DOC.due("within(40) of 1,000", DOC.told(Sentences.THOUSAND).within(40), 1000);
     }
 

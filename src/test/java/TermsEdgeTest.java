@@ -1,4 +1,6 @@
 import java.math.BigInteger;
+import java.util.ArrayList;
+import java.util.List;
 
 /** The document's Terms I to V: each sentence that names an edge, with a test of its own. */
 public final class TermsEdgeTest {
@@ -24,6 +26,7 @@ public final class TermsEdgeTest {
         leastFaultOfOnePlace();
         placeOfTheEnd();
         misplacedTokens();
+        wordsOffByALetter();
         numbersThatWouldWrap();
         holeToldAlready();
         ranksFromNought();
@@ -46,7 +49,7 @@ public final class TermsEdgeTest {
         wordsBelowEvenly();
         drawsWrapRound();
         othersThanTheFirst();
-        DOC.finish(40);
+        DOC.finish(41);
     }
 
     private static String head(int rows, int columns) {
@@ -322,6 +325,30 @@ public final class TermsEdgeTest {
         }
     }
 
+    private static void wordsOffByALetter() {
+        DOC.says("I", "1 a TOKEN that is none, or can't stand there: words");
+        String whole = Sentences.SMALL + "hole 1 0;";
+        for (String word : new String[] {"table", "rows", "columns", "row 2", "row 0", "hole"}) {
+            int at = whole.indexOf(word);
+            int length = word.indexOf(' ') < 0 ? word.length() : word.indexOf(' ');
+            String before = whole.substring(0, at);
+            String behind = whole.substring(at + length);
+            String own = word.substring(0, length);
+            for (int i = 0; i < length; i++) {
+                String start = own.substring(0, i);
+                String rest = own.substring(i + 1);
+                DOC.fault(before + start + (own.charAt(i) == 'z' ? 'a' : 'z') + rest + behind, 1, at);
+                DOC.fault(before + start + rest + behind, 1, at);
+            }
+            // the last letter of a .. z and the first: they belong to the word, which is none then
+            DOC.fault(before + own + "z" + behind, 1, at);
+            DOC.fault(before + own + "a" + behind, 1, at);
+            DOC.fault(before + "z" + own + behind, 1, at);
+            DOC.fault(before + "a" + own + behind, 1, at);
+            DOC.taken(before + own + "\n" + behind, 4);
+        }
+    }
+
     private static void numbersThatWouldWrap() {
         DOC.says("I", "2 a number out of its bounds");
         BigInteger two = BigInteger.TWO;
@@ -573,12 +600,17 @@ public final class TermsEdgeTest {
         DOC.says("IV", "TURN: of three unlike rows r, s, t and columns c, d, e");
         DOC.due("classes() by swaps", DOC.told(Sentences.TURNING).classes(), 2);
         DOC.due("joined() by turns", DOC.told(Sentences.TURNING).joined(), 1);
-        // the same ring in any three of four rows and columns
+        // every ring in any three of four rows and columns, told by either of its two tables
         for (int row = 0; row < 4; row++) {
             for (int column = 0; column < 4; column++) {
-                CountTables x = DOC.told(ringBeside(row, column));
-                DOC.due("classes() beside " + row + ", " + column, x.classes(), 2);
-                DOC.due("joined() beside " + row + ", " + column, x.joined(), 1);
+                for (int[] order : orders(3)) {
+                    for (int turn = 1; turn <= 2; turn++) {
+                        CountTables x = DOC.told(ringBeside(row, column, order, turn));
+                        DOC.due("tables() beside " + row + ", " + column, x.tables(), 2);
+                        DOC.due("classes() beside " + row + ", " + column, x.classes(), 2);
+                        DOC.due("joined() beside " + row + ", " + column, x.joined(), 1);
+                    }
+                }
             }
         }
         // fewer than three rows or columns have no turn
@@ -587,8 +619,27 @@ public final class TermsEdgeTest {
                 + "hole 0 1;hole 1 0;").joined(), 1);
     }
 
+    /** All orders of 0 .. n - 1, each as a row. */
+    private static List<int[]> orders(int n) {
+        List<int[]> all = new ArrayList<>();
+        if (n == 0) {
+            all.add(new int[0]);
+            return all;
+        }
+        for (int[] fewer : orders(n - 1)) {
+            for (int at = 0; at < n; at++) {
+                int[] one = new int[n];
+                for (int i = 0; i < n; i++) {
+                    one[i] = i == at ? n - 1 : fewer[i < at ? i : i - 1];
+                }
+                all.add(one);
+            }
+        }
+        return all;
+    }
+
     /** Three rows and columns that can only turn; the row and the column told are nought. */
-    private static String ringBeside(int row, int column) {
+    private static String ringBeside(int row, int column, int[] order, int turn) {
         StringBuilder text = new StringBuilder(head(4, 4));
         StringBuilder holes = new StringBuilder();
         for (int y = 0; y < 4; y++) {
@@ -597,8 +648,8 @@ public final class TermsEdgeTest {
                 int i = y < row ? y : y - 1;
                 int k = x < column ? x : x - 1;
                 boolean inside = y != row && x != column;
-                text.append(inside && k == (i + 1) % 3 ? " 1" : " 0");
-                if (inside && i == k) {
+                text.append(inside && order[k] == (i + turn) % 3 ? " 1" : " 0");
+                if (inside && order[k] == i) {
                     holes.append("hole ").append(y).append(' ').append(x).append(';');
                 }
             }
@@ -609,13 +660,19 @@ public final class TermsEdgeTest {
 
     private static void turnsUnderLikeTerms() {
         DOC.says("IV", "1 less in r and d, s and e, t and c (under like terms)");
-        // four in a ring: each turn of three would touch a hole
-        CountTables ring = DOC.told("table rows 4 columns 4;row 1 0 0 0;row 0 1 0 0;row 0 0 1 0;"
-                + "row 0 0 0 1;hole 0 2;hole 0 3;hole 1 0;hole 1 3;hole 2 0;hole 2 1;hole 3 1;"
-                + "hole 3 2;");
-        DOC.due("tables() of a ring of four", ring.tables(), 2);
-        DOC.due("classes() of a ring of four", ring.classes(), 2);
-        DOC.due("joined() of a ring of four", ring.joined(), 2);
+        // four in a ring, through the rows and columns in any order: each turn of three would
+        // touch a hole
+        int[] counts = {1, 2};
+        for (int[] rows : orders(4)) {
+            for (int[] columns : orders(4)) {
+                for (int count : counts) {
+                    CountTables ring = DOC.told(ringOfFour(rows, columns, count));
+                    DOC.due("tables() of a ring of four", ring.tables(), 1 + count);
+                    DOC.due("classes() of a ring of four", ring.classes(), 1 + count);
+                    DOC.due("joined() of a ring of four", ring.joined(), 1 + count);
+                }
+            }
+        }
         // one free cell more, and a swap and a turn lead round
         CountTables cut = DOC.told("table rows 4 columns 4;row 1 0 0 0;row 0 1 0 0;row 0 0 1 0;"
                 + "row 0 0 0 1;hole 0 3;hole 1 0;hole 1 3;hole 2 0;hole 2 1;hole 3 1;hole 3 2;");
@@ -626,6 +683,24 @@ public final class TermsEdgeTest {
         DOC.due("tables() of a deep ring", deep.tables(), 4);
         DOC.due("classes() of a deep ring", deep.classes(), 4);
         DOC.due("joined() of a deep ring", deep.joined(), 1);
+    }
+
+    /** Row i of the order may have its own column and the next one's; all is in its own. */
+    private static String ringOfFour(int[] rows, int[] columns, int count) {
+        int[][] cells = new int[4][4];
+        boolean[][] free = new boolean[4][4];
+        for (int i = 0; i < 4; i++) {
+            cells[rows[i]][columns[i]] = count;
+            free[rows[i]][columns[i]] = true;
+            free[rows[i]][columns[(i + 1) % 4]] = true;
+        }
+        StringBuilder text = new StringBuilder(Texts.of(cells));
+        for (int k = 0; k < 16; k++) {
+            if (!free[k / 4][k % 4]) {
+                text.append("hole ").append(k / 4).append(' ').append(k % 4).append(';');
+            }
+        }
+        return text.toString();
     }
 
     private static void listedToAThousand() {
