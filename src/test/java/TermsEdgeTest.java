@@ -165,8 +165,20 @@ public final class TermsEdgeTest {
         for (int k = 0; k <= 16; k++) {
             DOC.taken(text.toString(), 5 + k);
             DOC.due("count(3) of " + k, DOC.told(text.toString()).count(3), k);
-            text.append("hole ").append(k % 4).append(' ').append(k / 4).append(';');
+            if (k < 16) {
+                text.append("hole ").append(k % 4).append(' ').append(k / 4).append(';');
+            }
         }
+        // every cell is one: what stands behind them is read all the same
+        int at = text.length();
+        for (int k = 0; k < 16; k++) {
+            DOC.fault(text + "hole " + k / 4 + " " + k % 4 + ";", 2, at + 7);
+        }
+        DOC.fault(text + "hole 4 0;", 2, at + 5);
+        DOC.fault(text + "hole", 1, at + 4);
+        DOC.fault(text + ";", 1, at);
+        DOC.fault(text + row(4, 0), 1, at);
+        DOC.taken(text + " \n", 21);
     }
 
     private static void holesWithinTheTable() {
