@@ -123,11 +123,11 @@ public final class CountTables {
     }
 
     public int row(int row) {
-        return sheet.has(row, 0) ? sheet.rowSums[row] : ABSENT;
+        return sheet.has(row, 0) ? sheet.rowSum(row) : ABSENT;
     }
 
     public int column(int column) {
-        return sheet.has(0, column) ? sheet.columnSums[column] : ABSENT;
+        return sheet.has(0, column) ? sheet.columnSum(column) : ABSENT;
     }
 
     public long tables() {
@@ -179,7 +179,7 @@ public final class CountTables {
         if (!sheet.has(row, column)) {
             return ABSENT;
         }
-        return Numbers.lowest(fiber.sumSeen(row, column), fiber.size(), what);
+        return Basics.lowest(fiber.sumSeen(row, column), fiber.size(), what);
     }
 
     public long weight() {
@@ -210,15 +210,15 @@ public final class CountTables {
         if (!hasStatistic(which)) {
             return ABSENT;
         }
-        return Numbers.lowest(measures.farOutHeft(which, sheet.now), fiber.heft(), what);
+        return Basics.lowest(measures.farOutHeft(which, sheet.now), fiber.heft(), what);
     }
 
     public long chi() {
-        return sheet.isTold() ? Numbers.bitsOfDouble(sheet.chiSum()) : ABSENT;
+        return sheet.isTold() ? Basics.bitsOfDouble(sheet.chiSum()) : ABSENT;
     }
 
     public int excess(int row, int column) {
-        return sheet.has(row, column) ? Numbers.bitsOfFloat(sheet.over(row, column)) : ABSENT;
+        return sheet.has(row, column) ? Basics.bitsOfFloat(sheet.over(row, column)) : ABSENT;
     }
 
     public int swaps() {
@@ -349,7 +349,7 @@ public final class CountTables {
     }
 
     private long evenWords() {
-        return Numbers.quotient(WORDS, fiber.size());
+        return Basics.quotient(WORDS, fiber.size());
     }
 
     private int rankNow() {
@@ -423,7 +423,7 @@ public final class CountTables {
         int columns;
         int lines;
         int holes;
-        final int[] cells = new int[CELLS];
+        private final int[] cells = new int[CELLS];
         private int total;
         private int kind;
         private int from;
@@ -461,6 +461,10 @@ public final class CountTables {
             return true;
         }
 
+        int countAt(int y, int x) {
+            return Basics.get(cells, SIDE * y + x);
+        }
+
         private boolean readSizes(Tape tape) {
             if (!passWord(tape, "table") || !passWord(tape, "rows")
                     || !isNumber(FEWEST_LINES, SIDE)) {
@@ -493,7 +497,7 @@ public final class CountTables {
                     return fail(OUT_OF_BOUNDS);
                 }
                 total += value;
-                cells[SIDE * y + x] = value;
+                Basics.put(cells, SIDE * y + x, value);
                 advance(tape);
             }
             return passSign(tape);
@@ -509,7 +513,7 @@ public final class CountTables {
                 return false;
             }
             int index = SIDE * y + value;
-            if ((holes >> index & 1) != 0 || index >= CELLS || cells[index] != 0) {
+            if ((holes >> index & 1) != 0 || Basics.get(cells, index) != 0) {
                 return fail(OUT_OF_BOUNDS);
             }
             holes |= 1 << index;
@@ -649,12 +653,49 @@ public final class CountTables {
         }
     }
 
-    /** Arithmetic that the library of this program does not have. */
-    private static final class Numbers {
+    /**
+     * What the library of this program does not have: rows whose index is looked at first (outside
+     * a row all is 0, and nothing can be put there), a division that never throws, bits.
+     */
+    private static final class Basics {
         private static final int EUCLID_STEPS = 200;
         private static final int MOST_EXPONENT = 1100;
 
-        private Numbers() {
+        private Basics() {
+        }
+
+        static int get(int[] row, int at) {
+            return at >= 0 && at < row.length ? row[at] : 0;
+        }
+
+        static long get(long[] row, int at) {
+            return at >= 0 && at < row.length ? row[at] : 0;
+        }
+
+        static boolean get(boolean[] row, int at) {
+            return at >= 0 && at < row.length && row[at];
+        }
+
+        static void put(int[] row, int at, int v) {
+            if (at >= 0 && at < row.length) {
+                row[at] = v;
+            }
+        }
+
+        static void put(long[] row, int at, long v) {
+            if (at >= 0 && at < row.length) {
+                row[at] = v;
+            }
+        }
+
+        static void put(boolean[] row, int at, boolean v) {
+            if (at >= 0 && at < row.length) {
+                row[at] = v;
+            }
+        }
+
+        static int cut(int v, int top) {
+            return v < 0 ? 0 : Math.min(v, top);
         }
 
         static long quotient(long above, long below) {
@@ -737,10 +778,10 @@ public final class CountTables {
         int lines;
         int total;
         int holes;
-        final int[] rowSums = new int[SIDE];
-        final int[] columnSums = new int[SIDE];
         long now;
         int acts;
+        private final int[] rowSums = new int[SIDE];
+        private final int[] columnSums = new int[SIDE];
         private final long[] past = new long[MOST_ACTS];
 
         void take(Reader reader) {
@@ -755,7 +796,7 @@ public final class CountTables {
             Arrays.fill(columnSums, 0);
             for (int y = 0; y < SIDE; y++) {
                 for (int x = 0; x < SIDE; x++) {
-                    int v = reader.cells[SIDE * y + x];
+                    int v = reader.countAt(y, x);
                     total += v;
                     rowSums[y] += v;
                     columnSums[x] += v;
@@ -778,6 +819,14 @@ public final class CountTables {
 
         boolean isHole(int y, int x) {
             return (holes >> SIDE * y + x & 1) != 0;
+        }
+
+        int rowSum(int y) {
+            return Basics.get(rowSums, y);
+        }
+
+        int columnSum(int x) {
+            return Basics.get(columnSums, x);
         }
 
         boolean isFull() {
@@ -819,7 +868,7 @@ public final class CountTables {
         }
 
         private int product(int y, int x) {
-            return has(y, x) ? rowSums[y] * columnSums[x] : 0;
+            return rowSum(y) * columnSum(x);
         }
 
         float over(int y, int x) {
@@ -856,13 +905,14 @@ public final class CountTables {
             355687428096000L, 6402373705728000L, 121645100408832000L, 2432902008176640000L,
         };
 
-        final int[] start = new int[SIDE + 1];
+        private final int[] start = new int[SIDE + 1];
         final int[] line = new int[LIMIT];
         /** What the line takes from the columns, six bits each. */
         final int[] taken = new int[LIMIT];
         /** The same as one number among all that the columns allow. */
         final int[] code = new int[LIMIT];
-        final long[][] parts = new long[STATISTICS][LIMIT];
+        /** LIMIT by each statistic, one behind the other. */
+        final long[] parts = new long[STATISTICS * LIMIT];
         private final int[] strides = new int[SIDE];
         private long scale;
         private int size;
@@ -873,23 +923,34 @@ public final class CountTables {
             size = 0;
             for (int y = 0; y < sheet.rows && y < SIDE; y++) {
                 start[y] = size;
-                lay(this, sheet, y, 0, sheet.rowSums[y], 0);
+                lay(this, sheet, y, 0, sheet.rowSum(y), 0);
                 start[y + 1] = size;
             }
         }
 
-        int takenBy(int[] counts) {
+        /** The lines of a row are those from its first to the first of the row behind it. */
+        int firstOf(int y) {
+            return Basics.cut(Basics.get(start, y), LIMIT);
+        }
+
+        long partOf(int which, int fill) {
+            int at = which * LIMIT + fill;
+            return at >= 0 && at < parts.length ? parts[at] : 0;
+        }
+
+        /** What all lines together take: the columns' own sums. */
+        int takenByAll(Sheet sheet) {
             int bits = 0;
-            for (int x = 0; x < SIDE && x < counts.length; x++) {
-                bits |= counts[x] << BITS * x;
+            for (int x = 0; x < SIDE; x++) {
+                bits |= sheet.columnSum(x) << BITS * x;
             }
             return bits;
         }
 
-        int codeOf(int[] counts) {
+        int codeOfAll(Sheet sheet) {
             int number = 0;
-            for (int x = 0; x < SIDE && x < counts.length; x++) {
-                number += counts[x] * strides[x];
+            for (int x = 0; x < SIDE; x++) {
+                number += sheet.columnSum(x) * strides[x];
             }
             return number;
         }
@@ -900,15 +961,15 @@ public final class CountTables {
             int stride = 1;
             for (int x = 0; x < sheet.columns - 1 && x < SIDE; x++) {
                 strides[x] = stride;
-                stride *= sheet.columnSums[x] + 1;
+                stride *= sheet.columnSum(x) + 1;
             }
         }
 
         private void setScale(Sheet sheet) {
             scale = 1;
             for (int i = 0; i < SIDE; i++) {
-                scale *= Math.max(1, sheet.rowSums[i]);
-                scale *= Math.max(1, sheet.columnSums[i]);
+                scale *= Math.max(1, sheet.rowSum(i));
+                scale *= Math.max(1, sheet.columnSum(i));
             }
         }
 
@@ -917,7 +978,7 @@ public final class CountTables {
                 fills.keep(sheet, y, cells);
                 return;
             }
-            int top = sheet.isHole(y, x) ? 0 : Math.min(left, sheet.columnSums[x]);
+            int top = sheet.isHole(y, x) ? 0 : Math.min(left, sheet.columnSum(x));
             int v = x == sheet.columns - 1 ? left : 0;
             for (; v <= top; v++) {
                 lay(fills, sheet, y, x + 1, left - v, Grid.putInLine(cells, x, v));
@@ -925,28 +986,37 @@ public final class CountTables {
         }
 
         private void keep(Sheet sheet, int y, int cells) {
-            if (size < 0 || size >= LIMIT) {
-                return;
-            }
-            line[size] = cells;
-            taken[size] = 0;
-            code[size] = 0;
-            int sum = sheet.rowSums[y];
-            parts[0][size] = factorial(sum);
-            parts[1][size] = 0;
-            parts[2][size] = 0;
-            parts[3][size] = 0;
+            int sum = sheet.rowSum(y);
+            int takes = 0;
+            int number = 0;
+            long laid = factorial(sum);
+            long squares = 0;
+            long products = 0;
+            long top = 0;
             for (int x = 0; x < SIDE; x++) {
                 int v = Grid.inLine(cells, x);
-                taken[size] |= v << BITS * x;
-                code[size] += v * strides[x];
-                long sums = (long) sum * sheet.columnSums[x];
-                parts[0][size] = Numbers.quotient(parts[0][size], factorial(v));
-                parts[1][size] += v * v * Numbers.quotient(scale, sums);
-                parts[2][size] += v * (y + 1) * (x + 1);
-                parts[3][size] = Math.max(parts[3][size], v);
+                long sums = (long) sum * sheet.columnSum(x);
+                takes |= v << BITS * x;
+                number += v * strides[x];
+                laid = Basics.quotient(laid, factorial(v));
+                squares += v * v * Basics.quotient(scale, sums);
+                products += v * (y + 1) * (x + 1);
+                top = Math.max(top, v);
             }
-            size++;
+            Basics.put(line, size, cells);
+            Basics.put(taken, size, takes);
+            Basics.put(code, size, number);
+            putParts(laid, squares, products, top);
+            size = Math.min(LIMIT, size + 1);
+        }
+
+        private void putParts(long laid, long squares, long products, long top) {
+            if (size >= 0 && size < LIMIT) {
+                parts[size] = laid;
+                parts[LIMIT + size] = squares;
+                parts[2 * LIMIT + size] = products;
+                parts[3 * LIMIT + size] = top;
+            }
         }
 
         private static long factorial(int n) {
@@ -971,8 +1041,8 @@ public final class CountTables {
         int rows;
         int nodes;
         /** The first node behind so many rows. */
-        final int[] levels = new int[SIDE + 2];
-        final int[] firstLink = new int[NODES + 1];
+        private final int[] levels = new int[SIDE + 1];
+        private final int[] firstLink = new int[NODES + 1];
         final int[] linkFill = new int[LINKS];
         final int[] linkTo = new int[LINKS];
         /** In how many ways the rows that are left can be, and their weights together. */
@@ -990,14 +1060,14 @@ public final class CountTables {
             nodes = 0;
             links = 0;
             fills.make(sheet);
-            addNode(fills.takenBy(sheet.columnSums), fills.codeOf(sheet.columnSums));
+            addNode(fills.takenByAll(sheet), fills.codeOfAll(sheet));
             levels[0] = 0;
             for (int y = 0; y < rows && y < SIDE; y++) {
                 levels[y + 1] = nodes;
                 linkLevel(y);
             }
-            for (int node = levels[rows]; node <= nodes; node++) {
-                firstLink[node] = links;
+            for (int node = firstNode(rows); node <= nodes && node <= NODES; node++) {
+                Basics.put(firstLink, node, links);
             }
             sumAhead();
             sumBehind();
@@ -1006,55 +1076,70 @@ public final class CountTables {
 
         private void linkLevel(int y) {
             Arrays.fill(nodeByCode, NONE);
-            for (int node = levels[y]; node < levels[y + 1]; node++) {
-                firstLink[node] = links;
-                for (int fill = fills.start[y]; fill < fills.start[y + 1]; fill++) {
-                    link(node, fill);
+            int end = firstNode(y + 1);
+            for (int node = firstNode(y); node < end; node++) {
+                Basics.put(firstLink, node, links);
+                linkNode(y, Basics.get(left, node) | GUARDS, Basics.get(code, node));
+            }
+        }
+
+        private void linkNode(int y, int guarded, int number) {
+            int end = fills.firstOf(y + 1);
+            for (int fill = fills.firstOf(y); fill < end; fill++) {
+                int rest = guarded - fills.taken[fill];
+                if ((rest & GUARDS) == GUARDS) {
+                    link(fill, rest & ~GUARDS, number - fills.code[fill]);
                 }
             }
         }
 
-        private void link(int node, int fill) {
-            int rest = (left[node] | GUARDS) - fills.taken[fill];
-            int number = code[node] - fills.code[fill];
-            if ((rest & GUARDS) != GUARDS || number < 0 || number >= CODES || links >= LINKS) {
+        private void link(int fill, int rest, int number) {
+            if (links < 0 || links >= LINKS || number < 0 || number >= CODES) {
                 return;
             }
             if (nodeByCode[number] == NONE) {
-                nodeByCode[number] = addNode(rest & ~GUARDS, number);
+                nodeByCode[number] = addNode(rest, number);
             }
             linkFill[links] = fill;
             linkTo[links] = nodeByCode[number];
             links++;
         }
 
-        private int addNode(int bits, int number) {
-            int node = Math.min(nodes, NODES - 1);
-            left[node] = bits;
+        private int addNode(int rest, int number) {
+            int node = Basics.cut(nodes, NODES - 1);
+            left[node] = rest;
             code[node] = number;
             nodes = node + 1;
             return node;
         }
 
         private void sumAhead() {
-            for (int node = nodes - 1; node >= 0; node--) {
-                boolean last = node >= levels[rows];
-                ahead[node] = last ? 1 : 0;
-                heftAhead[node] = last ? 1 : 0;
-                for (int link = firstLink[node]; link < firstLink[node + 1]; link++) {
+            for (int node = Math.min(nodes, NODES) - 1; node >= 0; node--) {
+                long ways = isLast(node) ? 1 : 0;
+                long weighs = ways;
+                int end = firstLinkOf(node + 1);
+                for (int link = firstLinkOf(node); link < end; link++) {
                     int to = linkTo[link];
-                    ahead[node] += ahead[to];
-                    heftAhead[node] += fills.parts[0][linkFill[link]] * heftAhead[to];
+                    if (to >= 0 && to < NODES) {
+                        ways += ahead[to];
+                        weighs += fills.partOf(0, linkFill[link]) * heftAhead[to];
+                    }
                 }
+                ahead[node] = ways;
+                heftAhead[node] = weighs;
             }
         }
 
         private void sumBehind() {
             Arrays.fill(behind, 0);
             behind[0] = 1;
-            for (int node = 0; node < nodes; node++) {
-                for (int link = firstLink[node]; link < firstLink[node + 1]; link++) {
-                    behind[linkTo[link]] += behind[node];
+            for (int node = 0; node < nodes && node < NODES; node++) {
+                int end = firstLinkOf(node + 1);
+                for (int link = firstLinkOf(node); link < end; link++) {
+                    int to = linkTo[link];
+                    if (to >= 0 && to < NODES) {
+                        behind[to] += behind[node];
+                    }
                 }
             }
         }
@@ -1062,9 +1147,11 @@ public final class CountTables {
         private void sumSeenCells() {
             Arrays.fill(seen, 0);
             for (int y = 0; y < rows; y++) {
-                for (int node = levels[y]; node < levels[y + 1]; node++) {
-                    for (int link = firstLink[node]; link < firstLink[node + 1]; link++) {
-                        addSeen(y, fills.line[linkFill[link]], behind[node] * ahead[linkTo[link]]);
+                int endNode = firstNode(y + 1);
+                for (int node = firstNode(y); node < endNode; node++) {
+                    int end = firstLinkOf(node + 1);
+                    for (int link = firstLinkOf(node); link < end; link++) {
+                        addSeen(y, lineBy(link), behind[node] * aheadOf(linkTo[link]));
                     }
                 }
             }
@@ -1072,7 +1159,10 @@ public final class CountTables {
 
         private void addSeen(int y, int line, long times) {
             for (int x = 0; x < SIDE; x++) {
-                seen[seenAt(y, x, Grid.inLine(line, x))] += times;
+                int at = seenAt(y, x, Grid.inLine(line, x));
+                if (at >= 0 && at < seen.length) {
+                    seen[at] += times;
+                }
             }
         }
 
@@ -1080,17 +1170,46 @@ public final class CountTables {
             return (SIDE * y + x) * VALUES + v;
         }
 
+        private int firstNode(int level) {
+            return Basics.cut(Basics.get(levels, level), NODES);
+        }
+
+        /** The links of a node are those from its first to the first of the node behind it. */
+        int firstLinkOf(int node) {
+            return Basics.cut(Basics.get(firstLink, node), LINKS);
+        }
+
+        /** Whether all rows are laid there. */
+        boolean isLast(int node) {
+            return node >= firstNode(rows);
+        }
+
+        int nodeBy(int link) {
+            return Basics.get(linkTo, link);
+        }
+
+        int lineBy(int link) {
+            return Basics.get(fills.line, Basics.get(linkFill, link));
+        }
+
+        long partBy(int which, int link) {
+            return link >= 0 && link < LINKS ? fills.partOf(which, linkFill[link]) : 0;
+        }
+
+        long aheadOf(int node) {
+            return node >= 0 && node < NODES ? ahead[node] : 0;
+        }
+
         long size() {
-            return ahead[0];
+            return aheadOf(0);
         }
 
         long heft() {
-            return heftAhead[0];
+            return Basics.get(heftAhead, 0);
         }
 
         long timesSeen(int y, int x, int v) {
-            int at = seenAt(y, x, v);
-            return at >= 0 && at < seen.length ? seen[at] : 0;
+            return Basics.get(seen, seenAt(y, x, v));
         }
 
         long sumSeen(int y, int x) {
@@ -1119,8 +1238,9 @@ public final class CountTables {
 
         /** The link of a node by a line; NONE if there is none. */
         int linkBy(int node, int line) {
-            for (int link = firstLink[node]; link < firstLink[node + 1]; link++) {
-                if (fills.line[linkFill[link]] == line) {
+            int end = firstLinkOf(node + 1);
+            for (int link = firstLinkOf(node); link < end; link++) {
+                if (lineBy(link) == line) {
                     return link;
                 }
             }
@@ -1135,10 +1255,10 @@ public final class CountTables {
                 if (found == NONE) {
                     return NONE;
                 }
-                for (int link = firstLink[node]; link < found; link++) {
-                    before += ahead[linkTo[link]];
+                for (int link = firstLinkOf(node); link < found; link++) {
+                    before += aheadOf(linkTo[link]);
                 }
-                node = linkTo[found];
+                node = nodeBy(found);
             }
             return before;
         }
@@ -1148,13 +1268,17 @@ public final class CountTables {
             long rest = rank;
             int node = 0;
             for (int y = 0; y < rows; y++) {
-                int link = firstLink[node];
-                while (link < firstLink[node + 1] - 1 && rest >= ahead[linkTo[link]]) {
-                    rest -= ahead[linkTo[link]];
-                    link++;
+                int link = firstLinkOf(node);
+                int last = firstLinkOf(node + 1) - 1;
+                for (; link < last; link++) {
+                    long ways = aheadOf(linkTo[link]);
+                    if (rest < ways) {
+                        break;
+                    }
+                    rest -= ways;
                 }
-                cells = Grid.withLine(cells, y, fills.line[linkFill[link]]);
-                node = linkTo[link];
+                cells = Grid.withLine(cells, y, lineBy(link));
+                node = nodeBy(link);
             }
             return cells;
         }
@@ -1162,16 +1286,22 @@ public final class CountTables {
 
     /** What share of the fiber lies as far out as a table by one of the statistics. */
     private static final class Measures {
+        private static final int SLOTS = STATISTICS * Fiber.NODES;
+
         private final Fiber fiber;
         /** What the rows that are left behind a node can bring at the least, and at the most. */
-        private final long[][] low = new long[STATISTICS][Fiber.NODES];
-        private final long[][] high = new long[STATISTICS][Fiber.NODES];
+        private final long[] low = new long[SLOTS];
+        private final long[] high = new long[SLOTS];
         private final boolean[] bounded = new boolean[STATISTICS];
         /** The latest answer by each statistic: it hangs on the table's own value alone. */
         private final boolean[] counted = new boolean[STATISTICS];
         private final long[] value = new long[STATISTICS];
         private final long[] number = new long[STATISTICS];
         private final long[] heft = new long[STATISTICS];
+        /** What is being gathered. */
+        private long limit;
+        private long found;
+        private long foundHeft;
 
         Measures(Fiber fiber) {
             this.fiber = fiber;
@@ -1192,30 +1322,30 @@ public final class CountTables {
                 if (link == NONE) {
                     return ABSENT;
                 }
-                sum = join(which, sum, fiber.fills.parts[which][fiber.linkFill[link]]);
-                node = fiber.linkTo[link];
+                sum = join(which, sum, fiber.partBy(which, link));
+                node = fiber.nodeBy(link);
             }
             return sum;
         }
 
         long farOut(int which, long cells) {
             gatherAll(which, valueOf(which, cells));
-            return number[which];
+            return Basics.get(number, which);
         }
 
         long farOutHeft(int which, long cells) {
             gatherAll(which, valueOf(which, cells));
-            return heft[which];
+            return Basics.get(heft, which);
         }
 
         long firstHeaviest() {
             bound(0);
-            return firstWith(high[0]);
+            return firstWith(high);
         }
 
         long firstLightest() {
             bound(0);
-            return firstWith(low[0]);
+            return firstWith(low);
         }
 
         /** The first link that keeps to the best leads to the least rank of all that have it. */
@@ -1223,19 +1353,25 @@ public final class CountTables {
             long before = 0;
             int node = 0;
             for (int y = 0; y < fiber.rows; y++) {
+                long due = Basics.get(best, slot(0, node));
                 int next = node;
-                for (int link = fiber.firstLink[node]; link < fiber.firstLink[node + 1]; link++) {
-                    int to = fiber.linkTo[link];
-                    long part = fiber.fills.parts[0][fiber.linkFill[link]];
-                    if (fiber.ahead[to] > 0 && part * best[to] == best[node]) {
+                int end = fiber.firstLinkOf(node + 1);
+                for (int link = fiber.firstLinkOf(node); link < end; link++) {
+                    int to = fiber.nodeBy(link);
+                    long weight = fiber.partBy(0, link) * Basics.get(best, slot(0, to));
+                    if (fiber.aheadOf(to) > 0 && weight == due) {
                         next = to;
                         break;
                     }
-                    before += fiber.ahead[to];
+                    before += fiber.aheadOf(to);
                 }
                 node = next;
             }
             return before;
+        }
+
+        private static int slot(int which, int node) {
+            return which * Fiber.NODES + node;
         }
 
         private static long start(int which) {
@@ -1254,14 +1390,14 @@ public final class CountTables {
         }
 
         private void bound(int which) {
-            if (bounded[which]) {
+            if (Basics.get(bounded, which)) {
                 return;
             }
-            bounded[which] = true;
+            Basics.put(bounded, which, true);
             for (int node = fiber.nodes - 1; node >= 0; node--) {
-                if (node >= fiber.levels[fiber.rows]) {
-                    low[which][node] = start(which);
-                    high[which][node] = start(which);
+                if (fiber.isLast(node)) {
+                    Basics.put(low, slot(which, node), start(which));
+                    Basics.put(high, slot(which, node), start(which));
                 } else {
                     boundNode(which, node);
                 }
@@ -1270,54 +1406,68 @@ public final class CountTables {
 
         private void boundNode(int which, int node) {
             boolean first = true;
-            for (int link = fiber.firstLink[node]; link < fiber.firstLink[node + 1]; link++) {
+            long least = 0;
+            long most = 0;
+            int end = fiber.firstLinkOf(node + 1);
+            for (int link = fiber.firstLinkOf(node); link < end; link++) {
                 int to = fiber.linkTo[link];
-                if (fiber.ahead[to] > 0) {
-                    long part = fiber.fills.parts[which][fiber.linkFill[link]];
-                    long lower = join(which, part, low[which][to]);
-                    long upper = join(which, part, high[which][to]);
-                    low[which][node] = first ? lower : Math.min(low[which][node], lower);
-                    high[which][node] = first ? upper : Math.max(high[which][node], upper);
+                if (fiber.aheadOf(to) > 0) {
+                    long part = fiber.partBy(which, link);
+                    long lower = join(which, part, Basics.get(low, slot(which, to)));
+                    long upper = join(which, part, Basics.get(high, slot(which, to)));
+                    least = first ? lower : Math.min(least, lower);
+                    most = first ? upper : Math.max(most, upper);
                     first = false;
                 }
             }
+            Basics.put(low, slot(which, node), least);
+            Basics.put(high, slot(which, node), most);
         }
 
-        private void gatherAll(int which, long limit) {
-            if (counted[which] && value[which] == limit) {
+        private void gatherAll(int which, long worth) {
+            if (Basics.get(counted, which) && Basics.get(value, which) == worth) {
                 return;
             }
             bound(which);
-            counted[which] = true;
-            value[which] = limit;
-            number[which] = 0;
-            heft[which] = 0;
+            limit = worth;
+            found = 0;
+            foundHeft = 0;
             gather(this, which, 0, 0, start(which), 1);
+            Basics.put(counted, which, true);
+            Basics.put(value, which, worth);
+            Basics.put(number, which, found);
+            Basics.put(heft, which, foundHeft);
         }
 
         /** Whole branches are taken or left by their bounds: few tables are gone through. */
         private static void gather(Measures m, int which, int node, int depth, long sum,
                 long weighs) {
-            Fiber fiber = m.fiber;
-            long limit = m.value[which];
-            long lower = join(which, sum, m.low[which][node]);
-            long upper = join(which, sum, m.high[which][node]);
-            boolean all = which == 0 ? upper <= limit : lower >= limit;
-            boolean any = which == 0 ? lower <= limit : upper >= limit;
-            if (all) {
-                m.number[which] += fiber.ahead[node];
-                m.heft[which] += weighs * fiber.heftAhead[node];
-            }
-            if (all || !any || depth >= fiber.rows) {
+            int at = slot(which, node);
+            if (depth > SIDE || node < 0 || node >= Fiber.NODES || at < 0 || at >= SLOTS) {
                 return;
             }
-            for (int link = fiber.firstLink[node]; link < fiber.firstLink[node + 1]; link++) {
+            long lower = join(which, sum, m.low[at]);
+            long upper = join(which, sum, m.high[at]);
+            boolean all = which == 0 ? upper <= m.limit : lower >= m.limit;
+            boolean any = which == 0 ? lower <= m.limit : upper >= m.limit;
+            if (all) {
+                m.found += m.fiber.ahead[node];
+                m.foundHeft += weighs * m.fiber.heftAhead[node];
+            } else if (any) {
+                gatherBehind(m, which, node, depth, sum, weighs);
+            }
+        }
+
+        private static void gatherBehind(Measures m, int which, int node, int depth, long sum,
+                long weighs) {
+            Fiber fiber = m.fiber;
+            int end = fiber.firstLinkOf(node + 1);
+            for (int link = fiber.firstLinkOf(node); link < end; link++) {
                 int to = fiber.linkTo[link];
-                int fill = fiber.linkFill[link];
-                if (fiber.ahead[to] > 0) {
-                    gather(m, which, to, depth + 1,
-                            join(which, sum, fiber.fills.parts[which][fill]),
-                            weighs * fiber.fills.parts[0][fill]);
+                if (to > node && fiber.aheadOf(to) > 0) {
+                    long part = fiber.partBy(which, link);
+                    long weight = which == 0 ? part : fiber.partBy(0, link);
+                    gather(m, which, to, depth + 1, join(which, sum, part), weighs * weight);
                 }
             }
         }
@@ -1332,7 +1482,7 @@ public final class CountTables {
         int moveEnd;
         /** How many choices of two rows and two columns there are. */
         int choices;
-        final long[] step = new long[LIMIT];
+        private final long[] step = new long[LIMIT];
         private final int[] lessA = new int[LIMIT];
         private final int[] lessB = new int[LIMIT];
         private final int[] lessC = new int[LIMIT];
@@ -1398,8 +1548,13 @@ public final class CountTables {
         }
 
         boolean can(long cells, int move) {
-            return Grid.get(cells, lessA[move]) > 0 && Grid.get(cells, lessB[move]) > 0
-                    && Grid.get(cells, lessC[move]) > 0;
+            return move >= 0 && move < LIMIT && Grid.get(cells, lessA[move]) > 0
+                    && Grid.get(cells, lessB[move]) > 0 && Grid.get(cells, lessC[move]) > 0;
+        }
+
+        /** The cells behind a move. */
+        long moved(long cells, int move) {
+            return move >= 0 && move < LIMIT ? cells + step[move] : cells;
         }
 
         int swapsOn(long cells) {
@@ -1457,35 +1612,52 @@ public final class CountTables {
             joinedHeads = NONE;
             size = (int) Math.min(LISTED, fiber.size());
             for (int i = 0; i < size; i++) {
-                list[i] = fiber.cellsOf(i);
+                Basics.put(list, i, fiber.cellsOf(i));
             }
             nears = 0;
             for (int i = 0; i < size; i++) {
-                firstNear[i] = nears;
-                linkSwaps(i);
+                Basics.put(firstNear, i, nears);
+                linkSwaps(cellsAt(i));
             }
-            firstNear[size] = nears;
+            Basics.put(firstNear, size, nears);
             splitIntoClasses();
         }
 
-        private void linkSwaps(int at) {
+        private void linkSwaps(long cells) {
             for (int move = 0; move < moves.swapEnd; move++) {
-                if (moves.can(list[at], move) && nears < MOST_NEARS) {
-                    if (nears >= near.length) {
-                        near = Arrays.copyOf(near, Math.min(MOST_NEARS, 2 * near.length));
-                    }
-                    near[nears] = find(list[at] + moves.step[move]);
-                    nears++;
+                if (moves.can(cells, move)) {
+                    addNear(find(moves.moved(cells, move)));
                 }
             }
         }
 
+        private void addNear(int at) {
+            if (nears >= near.length && near.length < MOST_NEARS) {
+                near = Arrays.copyOf(near, Math.min(MOST_NEARS, 2 * near.length));
+            }
+            if (nears >= 0 && nears < near.length) {
+                near[nears] = at;
+                nears++;
+            }
+        }
+
+        private long cellsAt(int at) {
+            return Basics.get(list, at);
+        }
+
+        /** What is one swap from a table are those from its first to the first of the next. */
+        private int firstNearOf(int at) {
+            return Basics.cut(Basics.get(firstNear, at), near.length);
+        }
+
         /** The list is in order by its longs without sign: the first cell may reach the top bit. */
         private int find(long cells) {
+            long sought = cells ^ TOP_BIT;
             int at = 0;
             for (int leap = 512; leap > 0; leap >>= 1) {
-                if (at + leap < size && (list[at + leap] ^ TOP_BIT) <= (cells ^ TOP_BIT)) {
-                    at += leap;
+                int next = at + leap;
+                if (next < size && next < LISTED && (list[next] ^ TOP_BIT) <= sought) {
+                    at = next;
                 }
             }
             return at;
@@ -1495,10 +1667,10 @@ public final class CountTables {
             Arrays.fill(head, NONE);
             heads = 0;
             for (int i = 0; i < size; i++) {
-                if (head[i] == NONE) {
+                if (Basics.get(head, i) == NONE) {
                     heads++;
                     spread(head, i, i, 0);
-                    members[i] = queued;
+                    Basics.put(members, i, queued);
                 }
             }
         }
@@ -1507,16 +1679,19 @@ public final class CountTables {
         private void spread(int[] marks, int from, int mark, int more) {
             queued = 0;
             reach(marks, from, mark);
-            for (int i = 0; i < queued && i < size; i++) {
-                int at = queue[i];
-                for (int k = firstNear[at]; k < firstNear[at + 1]; k++) {
-                    reach(marks, near[k], marks[at] + more);
+            for (int i = 0; i < queued && i < LISTED; i++) {
+                int at = Basics.get(queue, i);
+                int next = Basics.get(marks, at) + more;
+                int end = firstNearOf(at + 1);
+                for (int link = firstNearOf(at); link < end; link++) {
+                    reach(marks, near[link], next);
                 }
             }
         }
 
         private void reach(int[] marks, int at, int mark) {
-            if (marks[at] == NONE && queued < LISTED) {
+            boolean open = at >= 0 && at < marks.length && marks[at] == NONE;
+            if (open && queued >= 0 && queued < LISTED) {
                 marks[at] = mark;
                 queue[queued] = at;
                 queued++;
@@ -1531,17 +1706,20 @@ public final class CountTables {
             }
         }
 
+        private int distanceOf(int at) {
+            return Basics.get(distances, at);
+        }
+
         int classTotal() {
             return heads;
         }
 
         int headOf(int at) {
-            return at >= 0 && at < size ? head[at] : ABSENT;
+            return Basics.get(head, at);
         }
 
         int classSize(int at) {
-            int first = headOf(at);
-            return first >= 0 && first < size ? members[first] : ABSENT;
+            return Basics.get(members, headOf(at));
         }
 
         int joinedTotal() {
@@ -1557,7 +1735,7 @@ public final class CountTables {
             Arrays.fill(distances, NONE);
             int found = 0;
             for (int i = 0; i < size; i++) {
-                if (distances[i] == NONE) {
+                if (distanceOf(i) == NONE) {
                     found++;
                     spreadByAll(i);
                 }
@@ -1568,40 +1746,33 @@ public final class CountTables {
         private void spreadByAll(int from) {
             queued = 0;
             reach(distances, from, 0);
-            for (int i = 0; i < queued && i < size; i++) {
-                int at = queue[i];
+            for (int i = 0; i < queued && i < LISTED; i++) {
+                long cells = cellsAt(Basics.get(queue, i));
                 for (int move = 0; move < moves.moveEnd; move++) {
-                    if (moves.can(list[at], move)) {
-                        reach(distances, find(list[at] + moves.step[move]), 0);
+                    if (moves.can(cells, move)) {
+                        reach(distances, find(moves.moved(cells, move)), 0);
                     }
                 }
             }
         }
 
         int distance(int from, int to) {
-            if (from < 0 || from >= size || to < 0 || to >= size) {
-                return ABSENT;
-            }
             if (source == to) {
-                return distances[from];
+                return distanceOf(from);
             }
             measureFrom(from);
-            return distances[to];
+            return distanceOf(to);
         }
 
         int greatestDistance(int from) {
-            int at = firstAtGreatest(from);
-            return at >= 0 && at < size ? distances[at] : ABSENT;
+            return distanceOf(firstAtGreatest(from));
         }
 
         int firstAtGreatest(int from) {
-            if (from < 0 || from >= size) {
-                return ABSENT;
-            }
             measureFrom(from);
             int best = from;
             for (int i = 0; i < size; i++) {
-                if (distances[i] > distances[best]) {
+                if (distanceOf(i) > distanceOf(best)) {
                     best = i;
                 }
             }
@@ -1609,40 +1780,40 @@ public final class CountTables {
         }
 
         int reached(int from, int n) {
-            if (from < 0 || from >= size) {
-                return ABSENT;
-            }
             measureFrom(from);
             int found = 0;
             for (int i = 0; i < size; i++) {
-                if (distances[i] != NONE && distances[i] <= n) {
+                if (distanceOf(i) != NONE && distanceOf(i) <= n) {
                     found++;
                 }
             }
             return found;
         }
 
-        /** Each swap is two choices (its rows and columns either way round); all others stay. */
         long choiceRows(int from, int n, int to) {
-            if (from < 0 || from >= size || to < 0 || to >= size) {
-                return ABSENT;
-            }
             Arrays.fill(rowsNow, 0);
-            rowsNow[from] = 1;
+            Basics.put(rowsNow, from, 1);
             for (int step = 0; step < n; step++) {
                 for (int at = 0; at < size; at++) {
-                    int degree = firstNear[at + 1] - firstNear[at];
-                    long sum = rowsNow[at] * (moves.choices - 2 * degree);
-                    for (int k = firstNear[at]; k < firstNear[at + 1]; k++) {
-                        sum += 2 * rowsNow[near[k]];
-                    }
-                    rowsNext[at] = sum;
+                    Basics.put(rowsNext, at, choiceRowsTo(at));
                 }
                 long[] spare = rowsNow;
                 rowsNow = rowsNext;
                 rowsNext = spare;
             }
-            return rowsNow[to];
+            return Basics.get(rowsNow, to);
+        }
+
+        /** Each swap is two choices (its rows and columns either way round); all others stay. */
+        private long choiceRowsTo(int at) {
+            int first = firstNearOf(at);
+            int end = firstNearOf(at + 1);
+            long sum = Basics.get(rowsNow, at) * (moves.choices - 2 * (end - first));
+            for (int link = first; link < end; link++) {
+                int other = near[link];
+                sum += other >= 0 && other < rowsNow.length ? 2 * rowsNow[other] : 0;
+            }
+            return sum;
         }
     }
 }
