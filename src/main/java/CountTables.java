@@ -695,7 +695,7 @@ public final class CountTables {
         }
 
         static int cut(int v, int top) {
-            return v < 0 ? 0 : Math.min(v, top);
+            return v < 0 ? 0 : v > top ? top : v;
         }
 
         static long quotient(long above, long below) {
@@ -1647,7 +1647,8 @@ public final class CountTables {
 
         /** What is one swap from a table are those from its first to the first of the next. */
         private int firstNearOf(int at) {
-            return Basics.cut(Basics.get(firstNear, at), near.length);
+            int first = at >= 0 && at <= LISTED ? firstNear[at] : 0;
+            return first >= 0 && first <= near.length ? first : 0;
         }
 
         /** The list is in order by its longs without sign: the first cell may reach the top bit. */
